@@ -559,6 +559,8 @@ public final class LoopMixer {
     private static final class Numbers {
         private static final int WIDE_FRACTION = 52;
         private static final int NARROW_FRACTION = 23;
+        private static final int WIDE_SIGN = 63;
+        private static final int NARROW_SIGN = 31;
         private static final int WIDE_ENDLESS = 2047;
         private static final int NARROW_ENDLESS = 255;
         /** The exponent field at which the lowest bit of the fraction counts 1. */
@@ -632,7 +634,7 @@ public final class LoopMixer {
             if (!isNegative(number)) {
                 return bits;
             }
-            return bits | (wide ? Long.MIN_VALUE : (long) Integer.MIN_VALUE);
+            return bits | -1L << (wide ? WIDE_SIGN : NARROW_SIGN);
         }
 
         /** Of the two zeros, only a division tells which it is: by it, 1.0 becomes endless with its sign. */

@@ -3,7 +3,7 @@ import java.util.Random;
 
 /** Long random runs of calls, each answer against that of a plain model that uses the Java library. */
 public final class ModelTest {
-    private static final int RUNS = 20000;
+    private static final int RUNS = 60000;
     private static final int CALLS = 512;
 
     /** The document's words in plain Java: native bits, the operator %, real rows. */
@@ -321,8 +321,8 @@ public final class ModelTest {
         }
 
         static int method(Random random) {
-            int[] often = {4, 4, 4, 8, 9, 10, 10, 10, 12, 13, 13, 13};
-            return random.nextInt(3) == 0 ? often[random.nextInt(often.length)] : random.nextInt(19);
+            int[] often = {1, 4, 4, 5, 6, 7, 8, 10, 10, 11, 12, 13, 13, 13, 15, 17, 18};
+            return random.nextInt(4) != 0 ? often[random.nextInt(often.length)] : random.nextInt(19);
         }
 
         static int number(Random random, int bound) {
@@ -403,11 +403,47 @@ public final class ModelTest {
         }
     }
 
+    /** Rows, full racks and heads, so that most plays find what they need. */
+    private static int fitOut(LoopMixer mixer, Model model, Random random) {
+        int wrong = 0;
+        for (int k = 0; k < 6; k++) {
+            int n = random.nextInt(17);
+            wrong += mixer.row(false, k, n) == model.row(false, k, n) ? 0 : 1;
+            wrong += mixer.row(true, k, 16 - n) == model.row(true, k, 16 - n) ? 0 : 1;
+            for (int i = 0; i < 16; i++) {
+                boolean curve = random.nextBoolean();
+                long bits = Call.bits(random, curve, false);
+                wrong += mixer.set(curve, k, i, bits) == model.set(curve, k, i, bits) ? 0 : 1;
+            }
+            long amount = Call.bits(random, true, false);
+            wrong += mixer.effect(k, k % 3, amount) == model.effect(k, k % 3, amount) ? 0 : 1;
+        }
+        for (int r = 0; r < 3; r++) {
+            wrong += mixer.rack(r, r) == model.rack(r, r) ? 0 : 1;
+            for (int i = 0; i < 3; i++) {
+                int k = r + 3 * random.nextInt(2);
+                wrong += mixer.hang(r, i, k) == model.hang(r, i, k) ? 0 : 1;
+            }
+        }
+        for (int h = 0; h < 4; h++) {
+            long rate = Call.bits(random, true, true);
+            wrong += mixer.head(h, h, h, h - 1, rate) == model.head(h, h, h, h - 1, rate) ? 0 : 1;
+        }
+        return wrong;
+    }
+
     private static int wrongIn(int run, int[][] seen) {
         Random random = new Random(run);
         LoopMixer mixer = new LoopMixer();
         Model model = new Model();
-        for (int n = 0; n < CALLS; n++) {
+        boolean fitted = run % 4 != 0;
+        if (fitted && fitOut(mixer, model, random) != 0) {
+            System.out.println("run " + run + ": the first calls are not as due");
+            return 1;
+        }
+        // Asking for what was told and for the failure after each call makes three of each.
+        int calls = fitted ? (CALLS - 150) / 3 : CALLS / 3;
+        for (int n = 0; n < calls; n++) {
             Call call = new Call(random);
             long got = call.askMixer(mixer);
             long want = call.askModel(model);
